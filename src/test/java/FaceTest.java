@@ -18,6 +18,7 @@ public final class FaceTest {
         theClass();
         methods();
         fields();
+        noCallThrows();
         CHECKS.end();
     }
 
@@ -87,5 +88,27 @@ public final class FaceTest {
         }
         CHECKS.holds("the constants " + seen + " are those of the face",
                 seen.equals(Set.of("BAD", "EMPTY", "DAMAGED")));
+    }
+
+    /** Rule 7 has no bound of 512 calls: the answers after it are free, but each call must give one. */
+    private static void noCallThrows() {
+        int[] numbers = {0, 15, 16, 21, 22, 32, -1, -32, Integer.MAX_VALUE, Integer.MIN_VALUE};
+        CardFlash x = new CardFlash();
+        for (int round = 0; round < 100; round++) {
+            for (int first : numbers) {
+                for (int second : numbers) {
+                    x.write(first, second);
+                    x.turn(first, second);
+                    x.tidy(second);
+                }
+                x.read(first);
+                x.repair(first);
+                x.trim(first);
+                x.power();
+                x.written();
+                x.damaged();
+                x.sum();
+            }
+        }
     }
 }
