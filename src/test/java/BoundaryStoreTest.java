@@ -38,6 +38,15 @@ public final class BoundaryStoreTest {
             later.damageAll();
             card.isNew();
         });
+        CASES.test("promise 1: two objects used side by side are apart", card -> {
+            Card other = new Card();
+            other.store(0, 5);
+            card.storeMixed();
+            other.holds(0, 5);
+            other.store(1, 6, 4, 5);
+            card.isMixed();
+            card.faults().addAll(other.faults());
+        });
     }
 
     /** "The sector is written with value & 65535" */
