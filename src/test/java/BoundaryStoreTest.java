@@ -37,6 +37,7 @@ public final class BoundaryStoreTest {
             later.fill(65535);
             later.damageAll();
             card.isNew();
+            card.faults().addAll(later.faults());
         });
         CASES.test("promise 1: two objects used side by side are apart", card -> {
             Card other = new Card();
